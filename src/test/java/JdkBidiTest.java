@@ -71,6 +71,28 @@ public final class JdkBidiTest {
                 }
             }
         }
+        compareOrder(ours, text.length);
+    }
+
+    private static void compareOrder(BidiLevels ours, int length) {
+        byte[] levels = new byte[length];
+        Integer[] order = new Integer[length];
+        int left = 0;
+        for (int i = 0; i < length; i++) {
+            if (ours.place(i) != BidiLevels.NONE) {
+                levels[left] = (byte) ours.seen(ours.place(i), 1);
+                order[left] = i;
+                left++;
+            }
+        }
+        Bidi.reorderVisually(levels, 0, order, 0, left);
+        for (int k = 0; k < left; k++) {
+            if (ours.seen(k, 0) != order[k]) {
+                wrong++;
+                System.out.println("seen " + k + " is " + ours.seen(k, 0) + ", due is " + order[k]);
+                return;
+            }
+        }
     }
 
     private static void report(char[] text, int base, int i, int level, int due) {
