@@ -216,8 +216,8 @@ public final class BidiLevels {
         }
     }
 
+    /** There is a line only while the text is resolved. */
     private void needLine() {
-        needLevels();
         if (!lined) {
             throw new IllegalStateException("no line was asked for");
         }

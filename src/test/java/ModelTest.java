@@ -627,6 +627,10 @@ public final class ModelTest {
             good = good && property(23 + below(8), 30, below(23));
         }
         if (below(4) == 0) {
+            int sign = 23 + below(4);
+            good = good && property(sign, sign, NSM);
+        }
+        if (below(4) == 0) {
             good = good && bracket(27, 28) && mirror(27, 29);
         }
         return good;
@@ -723,8 +727,8 @@ public final class ModelTest {
     private static void deepRun() {
         start();
         boolean good = tellClasses();
-        int[] openers = {LRE, LRO, RLE, RLO, LRI, RLI, FSI, LRI, RLI, L, R, EN, ON, NSM};
-        int[] closers = {PDF, PDF, PDI, PDI, L, R, AN, ON, NSM, RLI};
+        int[] openers = {LRE, LRO, RLE, RLO, LRI, RLI, FSI, LRI, RLI, L, R, EN, ON, NSM, 23, 24};
+        int[] closers = {PDF, PDF, PDI, PDI, L, R, AN, ON, NSM, RLI, 23, 24};
         int some = 1 + below(openers.length);
         int[] used = Arrays.copyOf(openers, some);
         for (int i = 0; good && i < 60; i++) {

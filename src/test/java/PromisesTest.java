@@ -391,6 +391,7 @@ public final class PromisesTest {
         levels(0, "or(paa)", "-11-000");
         levels(0, "r(iaP)r", "1112111");
         levels(0, "r(irP)a", "1001000");
+        bracketsThatAreMarks();
         for (int depth = 62; depth <= 65; depth++) {
             String open = "(".repeat(depth);
             String close = ")".repeat(depth);
@@ -400,6 +401,19 @@ public final class PromisesTest {
         }
         BidiLevels x = resolved("r(r)a" + "(".repeat(64) + "r" + ")".repeat(64) + "a", 0);
         due("pairs found before the 64th stay", x.level(3), 1);
+    }
+
+    /** By W1 a mark is ON behind a PDI, so that it can be a bracket there; behind a letter it can't. */
+    private static void bracketsThatAreMarks() {
+        String[] texts = {"riP(r)a", "rP(r)a", "r(r)a"};
+        int[] want = {1, 1, 0};
+        for (int i = 0; i < texts.length; i++) {
+            BidiLevels x = signs();
+            x.property('(', '(', 8);
+            addAll(x, texts[i]);
+            x.resolve(0);
+            due("the closing one of " + texts[i], x.level(texts[i].indexOf(')')), want[i]);
+        }
     }
 
     private static void neutralRules() {
