@@ -29,6 +29,16 @@ public final class FaceTest {
         return " throws " + Arrays.toString(Arrays.stream(classes).map(Class::getSimpleName).toArray());
     }
 
+    /** How many parameters, all of them int. */
+    private static String parameters(Method method) {
+        for (Class<?> type : method.getParameterTypes()) {
+            if (type != int.class) {
+                return "(one that is no int)";
+            }
+        }
+        return "(" + method.getParameterCount() + ")";
+    }
+
     private static boolean isHidden(int modifiers) {
         return Modifier.isPrivate(modifiers);
     }
@@ -47,8 +57,8 @@ public final class FaceTest {
         for (Method m : BidiLevels.class.getDeclaredMethods()) {
             if (!isHidden(m.getModifiers())) {
                 boolean plain = m.getModifiers() == Modifier.PUBLIC;
-                found.add((plain ? "" : "not plainly public: ") + m.getReturnType() + " " + m.getName() + "("
-                        + m.getParameterCount() + ")" + thrown(m.getExceptionTypes()));
+                found.add((plain ? "" : "not plainly public: ") + m.getReturnType() + " " + m.getName()
+                        + parameters(m) + thrown(m.getExceptionTypes()));
             }
         }
         Set<String> due = new TreeSet<>(Arrays.asList(FACE));

@@ -593,18 +593,29 @@ public final class ModelTest {
         return due("paragraph(" + k + ", " + what + ")", ask(() -> o.paragraph(k, what)), m.paragraph(k, what));
     }
 
-    private static boolean askAll() {
+    /** An object answers as promised for no more calls than that. */
+    private static int callsLeft() {
+        return 512 - said.size();
+    }
+
+    /** Everything, from a random place on, until only so many calls are left. */
+    private static boolean askAll(int callsKept) {
         boolean good = true;
-        int n = m.text.size();
-        for (int i = -1; good && i <= n; i++) {
-            good = askPosition(i) && askPlace(i);
-            for (int what = -1; good && what <= 3; what++) {
-                good = askSeen(i, what);
-            }
-        }
-        for (int k = -1; good && k <= m.paragraphs.size(); k++) {
+        int paragraphs = m.paragraphs.size() + 2;
+        int firstParagraph = below(paragraphs);
+        for (int i = 0; good && i < Math.min(paragraphs, 12); i++) {
+            int k = (firstParagraph + i) % paragraphs - 1;
             for (int what = -1; good && what <= 4; what++) {
                 good = askParagraph(k, what);
+            }
+        }
+        int positions = m.text.size() + 2;
+        int firstPosition = below(positions);
+        for (int i = 0; good && i < positions && callsLeft() >= callsKept + 9; i++) {
+            int at = (firstPosition + i) % positions - 1;
+            good = askPosition(at) && askPlace(at);
+            for (int what = -1; good && what <= 3; what++) {
+                good = askSeen(at, what);
             }
         }
         return good;
@@ -666,11 +677,11 @@ public final class ModelTest {
         good = good && resolve(below(3));
         int n = m.text.size();
         int[] p = n == 0 ? new int[4] : m.paragraphs.get(below(m.paragraphs.size()));
-        good = good && line(p[0], p[1]) && askAll();
-        for (int i = 0; good && i < 3; i++) {
+        good = good && line(p[0], p[1]) && askAll(100);
+        for (int i = 0; good && i < 3 && callsLeft() >= 4; i++) {
             int from = p[0] + below(p[1] - p[0]);
             good = line(from, from + 1 + below(p[1] - from));
-            for (int k = 0; good && k <= m.seen.size(); k++) {
+            for (int k = 0; good && k <= m.seen.size() && callsLeft() >= 3; k++) {
                 good = askSeen(k, 0) && askSeen(k, 1) && askSeen(k, 2);
             }
         }
@@ -718,7 +729,7 @@ public final class ModelTest {
     private static void mixedRun() {
         start();
         boolean good = below(2) == 0 || tellClasses();
-        for (int i = 0; good && i < 400; i++) {
+        for (int i = 0; good && i < 400 && callsLeft() >= 3; i++) {
             good = oneCall();
         }
     }
@@ -737,7 +748,7 @@ public final class ModelTest {
         for (int i = 0; good && i < 40; i++) {
             good = add(five(closers, 5));
         }
-        good = good && resolve(below(3)) && line(0, m.text.size()) && askAll();
+        good = good && resolve(below(3)) && line(0, m.text.size()) && askAll(0);
     }
 
     /** Brackets about the 63 that may wait. */
@@ -753,7 +764,7 @@ public final class ModelTest {
         for (int i = 0; good && i < 20; i++) {
             good = add(24, below(6) == 0 ? 26 : 24, some[below(some.length)], 24, 24);
         }
-        good = good && resolve(below(3)) && line(0, m.text.size()) && askAll();
+        good = good && resolve(below(3)) && line(0, m.text.size()) && askAll(0);
     }
 
     public static void main(String[] args) {
@@ -763,7 +774,7 @@ public final class ModelTest {
         for (int i = 0; i < 3000; i++) {
             mixedRun();
         }
-        for (int i = 0; i < 60; i++) {
+        for (int i = 0; i < 600; i++) {
             deepRun();
             bracketRun();
         }
