@@ -103,6 +103,15 @@ public final class LineBoundsTest {
         Checks.shown(0, "EaEbpap", 0, 7, "aba", "242");
     }
 
+    static void theGreatestLevelAloneIsNotTurned() {
+        String deep = "eE".repeat(62) + "e";
+        BidiLevels x = Checks.resolved(deep + "ab", 0);
+        Checks.due("how many are seen", x.line(0, 127), 2);
+        Checks.due("the level of the first one", x.seen(0, 1), 126);
+        Checks.due("the position of the first one", x.seen(0, 0), 125);
+        Checks.due("the place of the last one", x.place(126), 1);
+    }
+
     static void rowsOfAtLeastALevelAreTurned() {
         Checks.shown(0, "arfb", 0, 4, "afrb", "0110");
         Checks.shown(0, "r19", 0, 3, "19r", "221");

@@ -438,6 +438,16 @@ public final class ParagraphBoundsTest {
         Checks.levels(1, "O\n", "-1");
         Checks.kinds(1, "O\n", "-1");
         Checks.levels(0, "i\n", "00");
+        Checks.due("sequences of a letter and B at 1", Checks.resolved("r\n", 1).paragraph(0, 3), 1);
+    }
+
+    static void bGetsBaseWhateverWasThereBefore() {
+        BidiLevels x = Checks.resolved("eEa", 0);
+        Checks.due("the level of a letter", x.level(2), 2);
+        x.clear();
+        Checks.addAll(x, "eE\n");
+        x.resolve(0);
+        Checks.due("the level of a B in its place", x.level(2), 0);
     }
 
     static void overridesAreClasses() {

@@ -341,6 +341,8 @@ public final class SequenceBoundsTest {
 
     static void aPairWithTheLevelsDirectionInItGetsThat() {
         Checks.levels(0, "r(ra)r", "101001");
+        Checks.levels(0, "r(ar)r", "100101");
+        Checks.levels(1, "a(ra)a", "211212");
         Checks.levels(1, "a(ar)a", "212112");
         Checks.levels(0, "r(a)r", "10001");
     }
@@ -380,13 +382,28 @@ public final class SequenceBoundsTest {
         Checks.addAll(x, "r(r)a");
         x.resolve(0);
         Checks.levels("r(r)a with a blank as closing one", x, "11100");
-        BidiLevels y = Checks.signs();
-        y.property('(', ')', 4);
-        Checks.addAll(y, "r(r)a");
-        y.resolve(0);
-        Checks.levels("r(r)a with separators, ON by W6", y, "11110");
         Checks.levels(0, "r(ro)pa", "111-1-0");
         Checks.levels(0, "re(p)r", "1-1-11");
+    }
+
+    static void bracketsMayBeOnByW6() {
+        int[] classes = {4, 5, 7};
+        for (int kind : classes) {
+            BidiLevels x = Checks.signs();
+            x.property('(', ')', kind);
+            Checks.addAll(x, "r(r)a");
+            x.resolve(0);
+            Checks.levels("r(r)a with brackets of class " + kind, x, "11110");
+            x.clear();
+            Checks.addAll(x, "(r)r");
+            x.resolve(0);
+            Checks.levels("(r)r with brackets of class " + kind, x, "0101");
+        }
+    }
+
+    static void pairsOfASequenceBeforeAreGone() {
+        Checks.levels(0, "r(r)a\nr!r!a", "11110011100");
+        Checks.levels(0, "(r)a\n!r!r", "010000111");
     }
 
     static void marksDirectlyBehindABracketGetItsDirection() {

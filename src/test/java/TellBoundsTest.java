@@ -118,6 +118,23 @@ public final class TellBoundsTest {
         Checks.levels("the bounds of a range", x, "01110");
     }
 
+    static void aRangeToldBehindTheTextHoldsItsBoundsAndNoMore() {
+        BidiLevels x = new BidiLevels();
+        x.add(49, 50, 55, 60, 61);
+        x.property(50, 60, 1);
+        x.resolve(0);
+        Checks.levels("the bounds of a range told behind the text", x, "01110");
+    }
+
+    static void aRangeToldBehindAFullTextHoldsAllOfIt() {
+        BidiLevels x = new BidiLevels();
+        addSame(x, 7, 2000);
+        Checks.taken("property(7, 7, 1)", () -> x.property(7, 7, 1));
+        x.resolve(0);
+        Checks.due("the first one's level", x.level(0), 1);
+        Checks.due("the last one's level", x.level(1999), 1);
+    }
+
     static void ofSeveralRangesTheOneToldLastCounts() {
         BidiLevels x = new BidiLevels();
         x.property(50, 60, 1);
