@@ -767,9 +767,36 @@ public final class ModelTest {
         good = good && resolve(below(3)) && line(0, m.text.size()) && askAll(0);
     }
 
+    /** A text of 2000, where every row is used to its end; no FSI, for which the model is too slow there. */
+    private static void fullRun() {
+        start();
+        boolean good = tellClasses();
+        int[] letters = below(4) == 0 ? new int[] {below(23), below(31)} : alphabet();
+        for (int i = 0; i < letters.length; i++) {
+            letters[i] = letters[i] == FSI ? LRI : letters[i];
+        }
+        for (int i = 0; good && i < 400; i++) {
+            good = add(five(letters, 5));
+        }
+        good = good && add(0, -1, -1, -1, -1) && resolve(below(3));
+        int[] longest = {0, 0};
+        for (int[] p : m.paragraphs) {
+            longest = p[1] - p[0] > longest[1] - longest[0] ? p : longest;
+        }
+        good = good && line(longest[0], longest[1]) && askParagraph(m.paragraphs.size() - 1, below(4));
+        while (good && callsLeft() >= 7) {
+            int at = longest[0] + below(longest[1] - longest[0]);
+            int k = below(m.seen.size() + 1);
+            good = askPosition(at) && askPlace(at) && askSeen(k, 0) && askSeen(k, 1) && askSeen(k, 2);
+        }
+    }
+
     public static void main(String[] args) {
         for (int i = 0; i < 12000; i++) {
             textRun(1 + below(i % 20 == 0 ? 12 : 4));
+        }
+        for (int i = 0; i < 200; i++) {
+            fullRun();
         }
         for (int i = 0; i < 3000; i++) {
             mixedRun();

@@ -37,6 +37,24 @@ public final class PromisesTest {
         Checks.due("no bracket is told", x.level(3), 0);
     }
 
+    static void theExampleInTheReadme() {
+        BidiLevels x = new BidiLevels();
+        x.property(32, 32, 12);
+        x.property(0x5D0, 0x5EA, 1);
+        x.property('(', ')', 13);
+        x.bracket('(', ')');
+        x.mirror('(', ')');
+        Checks.due("add", x.add('a', ' ', 0x5D0, '(', 0x5D1), 5);
+        Checks.due("add", x.add(')', BidiLevels.NONE, 0, 0, 0), 6);
+        Checks.due("resolve", x.resolve(2), 1);
+        Checks.due("level", x.level(2), 1);
+        int[] want = {'a', ' ', '(', 0x5D1, ')', 0x5D0};
+        Checks.due("line", x.line(0, 6), want.length);
+        for (int k = 0; k < want.length; k++) {
+            Checks.due("seen " + k, x.seen(k, 2), want[k]);
+        }
+    }
+
     static void propertyPromise() {
         BidiLevels x = new BidiLevels();
         Checks.dueArgument("a first below 0", () -> x.property(-1, 5, 1));
